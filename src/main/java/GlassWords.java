@@ -1382,17 +1382,13 @@ public final class GlassWords {
                 }
             } else if (isDigit(start)) {
                 token = NUMBER;
-                lookOverDigits();
+                value = 0;
+                while (isDigit(next)) {
+                    value = Math.min(TOO_HIGH, 10 * value + tape.bytes[next] - '0');
+                    next++;
+                }
             } else {
                 token = signAt(start);
-                next++;
-            }
-        }
-
-        private void lookOverDigits() {
-            value = 0;
-            while (isDigit(next)) {
-                value = Math.min(TOO_HIGH, 10 * value + tape.bytes[next] - '0');
                 next++;
             }
         }
@@ -1405,11 +1401,11 @@ public final class GlassWords {
         }
 
         private boolean isLetter(int place) {
-            return place < tape.size && isWithin(tape.bytes[place], 'a', 'z');
+            return place < tape.size && tape.bytes[place] >= 'a' && tape.bytes[place] <= 'z';
         }
 
         private boolean isDigit(int place) {
-            return place < tape.size && isWithin(tape.bytes[place], '0', '9');
+            return place < tape.size && tape.bytes[place] >= '0' && tape.bytes[place] <= '9';
         }
     }
 

@@ -6,6 +6,7 @@ public final class JumpsTest {
         cheapLines();
         readsAheadOfJumps();
         beyond();
+        alone();
         Due.end();
     }
 
@@ -41,6 +42,14 @@ public final class JumpsTest {
         x.change(4, 0, 5);
         way(x, 4, 5, 30, 16);
         way(x, 3, 6, 11, 8);
+    }
+
+    private static void alone() {
+        Due.due("jumped(0, 2), asked alone", Due.withWords(5, 5).jumped(0, 2), 0);
+        Due.due("jumped(0, 1), asked alone", Due.withWords(5, 5).jumped(0, 1), 1);
+        GlassWords x = Due.withWords(20, 20, 20, 20, 20, 20, 20, 20, 20, 20, 20, 1);
+        // Jumps over seven lines in all, the shortest first: 0 to 2, 3 to 7, 8 to 12, with a line of 80 between.
+        way(x, 0, 12, 10 + 80 + 16 + 80 + 16, 1 << 2 | 1 << 7);
     }
 
     private static void readsAheadOfJumps() {

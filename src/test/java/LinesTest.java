@@ -79,6 +79,7 @@ public final class LinesTest {
         int[] takes = {1, 1, 4, 5, 16, 26, 13};
         int[] trips = {0, 0, 1, 2, 3, 1, 1};
         int[] seen = {0, 0, 2, 3, 0, 0, 5};
+        int[] mostSeen = {7, 6, 9, 10, 7, 7, 5};
         for (int kind = 0; kind < 7; kind++) {
             GlassWords x = Due.withLines(kind);
             x.change(0, 1, 1);
@@ -88,6 +89,8 @@ public final class LinesTest {
             Due.due("of(0, 4) at the edge, of kind " + kind, x.of(0, 4), trips[kind]);
             Due.rules(x, 1, 50, 5, 5, 0, 0, 0, 1);
             Due.due("of(0, 5) at the edge, of kind " + kind, x.of(0, 5), seen[kind]);
+            Due.rules(x, 1, 50, 5, 5, 0, 0, 9, 6);
+            Due.due("of(0, 5) at the other edge, of kind " + kind, x.of(0, 5), mostSeen[kind]);
             Due.due("of(-1, 0)", x.of(-1, 0), Due.BEYOND);
             Due.due("of(1, 0)", x.of(1, 0), Due.BEYOND);
             Due.due("of(0, -1)", x.of(0, -1), Due.BEYOND);

@@ -41,6 +41,8 @@ public final class PacesTest {
         Due.due("sign() holds at the edge", by(60, 60, 0, 0, 9, 9).sign(), 0);
         Due.due("sign() falls asleep", by(60, 70, 10, 10, 0, 0).sign(), 1);
         Due.due("sign() falls asleep at 50", by(50, 99, 10, 10, 0, 0).sign(), 1);
+        Due.due("sign() falls asleep at 50", by(99, 50, 10, 10, 0, 0).sign(), 1);
+        Due.due("sign() goes round by 49", by(99, 49, 10, 10, 0, 0).sign(), 2);
         Due.due("sign() goes round by 49", by(49, 99, 10, 10, 0, 0).sign(), 2);
         Due.due("sign() goes round", by(20, 30, 10, 10, 0, 0).sign(), 2);
         GlassWords x = by(20, 30, 10, 10, 0, 0);

@@ -3,6 +3,7 @@ public final class TapesTest {
 
     public static void main(String[] args) {
         tapes();
+        alone();
         fromAt();
         findings();
         Due.end();
@@ -39,6 +40,19 @@ public final class TapesTest {
         Due.sheetOf(x, 1, 16, 20, 90);
         isTold(x, 11, 110, 0, 1);
         Due.due("ruled(2)", x.ruled(2), 3);
+    }
+
+    private static GlassWords withTape() {
+        GlassWords x = twoLines();
+        Due.sheetOf(x, 0, 16, 20, 70);
+        return x;
+    }
+
+    private static void alone() {
+        Due.due("fits(0), asked alone", withTape().fits(0), 22);
+        Due.due("led(0), asked alone", withTape().led(0), 66);
+        Due.due("part(0, 0), asked alone", withTape().part(0, 0), 7);
+        Due.due("part(0, 1), asked alone", withTape().part(0, 1), 22);
     }
 
     private static void fromAt() {

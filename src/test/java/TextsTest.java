@@ -85,7 +85,10 @@ public final class TextsTest {
         for (int what = 0; what < 10; what++) {
             Due.due("ruled(" + what + ")", x.ruled(what), rules[what]);
         }
-        Due.due("text()", told(x, "knob 9 drift -3;reader 6"), 2);
+        Due.due("text()", told(x, "knob 8 drift -0;reader 7 drift 0"), 2);
+        Due.due("ruled(4)", x.ruled(4), 0);
+        Due.due("ruled(5)", x.ruled(5), 0);
+        Due.due("text()", told(x, "knob 9 drift -3;reader 6 drift 2"), 2);
         int[] later = {6, 9, 5, 1, 2, -3, 3, 3, 0, 600};
         for (int what = 0; what < 10; what++) {
             Due.due("ruled(" + what + ")", x.ruled(what), later[what]);
@@ -104,6 +107,10 @@ public final class TextsTest {
         faultAt(0, "Line");
         faultAt(0, "lines");
         faultAt(0, "lin");
+        faultAt(0, "nine");
+        faultAt(0, "lint");
+        faultAt(0, "our 3");
+        faultAt(5, "line lords 3");
         faultAt(2, "  5");
         faultAt(0, "-");
         faultAt(5, "line;");
