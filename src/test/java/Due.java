@@ -46,6 +46,21 @@ final class Due {
         return x;
     }
 
+    /** Twelve lines that take 2035 each, read so many times: CLOCK comes near its end behind 512 calls alone. */
+    static GlassWords late(int times) {
+        GlassWords x = withLines(5, 5, 5, 5, 5, 5, 5, 5, 5, 5, 5, 5);
+        for (int i = 0; i < 12; i++) {
+            x.change(i, 1, 20);
+            x.change(i, 2, 9);
+        }
+        rules(x, 99, 99, 0, 0, 0, 0);
+        for (int i = 0; i < times; i++) {
+            x.read(12);
+            x.go(0);
+        }
+        return x;
+    }
+
     static void rules(GlassWords x, int... v) {
         for (int what = 0; what < v.length; what++) {
             x.rule(what, v[what]);

@@ -84,6 +84,23 @@ public final class EveningsTest {
         Due.due("evening(13)", x.evening(13), Due.BEYOND);
         Due.due("evening(1)", x.evening(1), Due.STATE);
         Due.due("count(6)", x.count(6), 1);
+        lateEvenings();
+    }
+
+    private static void lateEvenings() {
+        GlassWords x = Due.late(405);
+        for (int i = 0; i < 5; i++) {
+            x.change(i, 0, 0);
+        }
+        Due.due("read(5)", x.read(5), 9900000);
+        x.rule(0, 1);
+        x.change(5, 0, 0);
+        x.change(5, 1, 1);
+        Due.due("evening(1) at 9900000", x.evening(1), 0);
+        Due.due("now(1)", x.now(1), 9900001);
+        Due.due("evening(1) above it", x.evening(1), Due.STATE);
+        Due.due("evening(13) above it", x.evening(13), Due.BEYOND);
+        Due.due("now(0)", x.now(0), 6);
     }
 
     private static void aheads() {

@@ -7,6 +7,7 @@ public final class ReadingTest {
         goes();
         turns();
         rests();
+        clockEnds();
         Due.end();
     }
 
@@ -58,6 +59,23 @@ public final class ReadingTest {
         Due.due("now(-1)", x.now(-1), Due.BEYOND);
         x.line(0);
         Due.due("read(1) of a line that came behind", x.read(1), 95);
+    }
+
+    private static void clockEnds() {
+        GlassWords x = Due.late(409);
+        Due.due("now(1)", x.now(1), 9987780);
+        Due.due("read(12)", x.read(12), Due.STATE);
+        Due.due("read(6)", x.read(6), 9999990);
+        Due.due("read(1)", x.read(1), Due.STATE);
+        Due.due("now(0)", x.now(0), 6);
+        x.rule(0, 9);
+        x.change(6, 0, 0);
+        x.change(6, 1, 1);
+        Due.due("read(1)", x.read(1), 9999999);
+        x.rule(0, 1);
+        x.go(6);
+        Due.due("read(1)", x.read(1), Due.STATE);
+        Due.due("now(1)", x.now(1), 9999999);
     }
 
     private static void goes() {

@@ -107,6 +107,13 @@ public final class TextsTest {
         faultAt(0, "Line");
         faultAt(0, "lines");
         faultAt(0, "lin");
+        faultAt(0, "linez");
+        faultAt(4, "line{");
+        faultAt(4, "line`");
+        faultAt(4, "lineZ");
+        faultAt(6, "hour 1:");
+        faultAt(6, "hour 1/");
+        faultAt(15, "reader 5 drift ?3");
         faultAt(0, "nine");
         faultAt(0, "lint");
         faultAt(0, "our 3");
