@@ -1377,13 +1377,13 @@ public final class GlassWords {
                 token = END;
             } else if (isLetter(start)) {
                 token = WORD;
-                while (isLetter(next)) {
+                while (next < tape.size && isLetter(next)) {
                     next++;
                 }
             } else if (isDigit(start)) {
                 token = NUMBER;
                 value = 0;
-                while (isDigit(next)) {
+                while (next < tape.size && isDigit(next)) {
                     value = Math.min(TOO_HIGH, 10 * value + tape.bytes[next] - '0');
                     next++;
                 }
