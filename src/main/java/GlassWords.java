@@ -969,6 +969,9 @@ public final class GlassWords {
     /** What is found by going through grids and sets; the first that would do has the least number. */
     private static final class Searches {
 
+        /** Twelve lines take, trip and are seen far less. */
+        private static final int MORE_THAN_ALL = 1000000;
+
         private final Paces paces = new Paces();
         private final int[] eased = new int[MOST_LINES];
         int fitting;
@@ -1001,7 +1004,7 @@ public final class GlassWords {
 
         int calmestEyes(Studio studio) {
             int best = 10 * LEAST_RULE[LETTERS] + LEAST_RULE[EYES_AHEAD];
-            int least = Integer.MAX_VALUE;
+            int least = MORE_THAN_ALL;
             for (int letters = LEAST_RULE[LETTERS]; letters <= MOST_RULE[LETTERS]; letters++) {
                 for (int ahead = LEAST_RULE[EYES_AHEAD]; ahead <= MOST_RULE[EYES_AHEAD]; ahead++) {
                     int unrest = studio.unrestAhead(letters, ahead);
@@ -1030,7 +1033,7 @@ public final class GlassWords {
         int quickestKind(Studio studio, int line) {
             int was = studio.kinds[line];
             int best = LINE;
-            int least = Integer.MAX_VALUE;
+            int least = MORE_THAN_ALL;
             for (int kind = LINE; kind <= BLANK; kind++) {
                 studio.kinds[line] = kind;
                 paces.takeFrom(studio.rules);

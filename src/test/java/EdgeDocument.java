@@ -35,6 +35,10 @@ final class EdgeDocument {
         return texts.size() - 1;
     }
 
+    String textOf(int promise) {
+        return texts.getOrDefault(promise, "");
+    }
+
     /** False: these words don't stand there. */
     boolean quote(int promise, String words) {
         String text = texts.get(promise);

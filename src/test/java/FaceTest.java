@@ -20,7 +20,9 @@ public final class FaceTest {
 
     private static final String[] BANNED = {"\\bthrow\\b", "\\btry\\b", "\\bcatch\\b", "\\bsynchronized\\b", "\\bassert\\b",
         "->", "::", "Exact\\b", "\\bpackage\\b", "\\bprotected\\b", "static\\s*\\{", "\\bThread\\b", "\\bRandom\\b",
-        "\\bSystem\\.(?!arraycopy\\b)", "\\bequals\\b", "\\bhashCode\\b", "\\btoString\\b", "\\bMath\\.random\\b"};
+        "\\bSystem\\.(?!arraycopy\\b)", "\\bequals\\b", "\\bhashCode\\b", "\\btoString\\b", "\\bMath\\.random\\b",
+        "\\b(Integer|Long|Math)\\.\\w+\\b(?!\\()", "(?<!util\\.)\\bArrays\\.(?!(copyOf|copyOfRange|fill)\\()",
+        "\\b(Character|Byte|Short|Boolean|Objects|Collections|Optional|Scanner)\\b"};
 
     public static void main(String[] args) throws IOException {
         Class<?> c = GlassWords.class;
